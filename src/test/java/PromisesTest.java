@@ -1,16 +1,5 @@
 /** Each promise of the document: ordinary inputs, the edges it names, wrong inputs. */
 public final class PromisesTest {
-    private static final int[] NO_JOB = {-1, 8, 9, 31, 32, 64, Integer.MIN_VALUE, Integer.MAX_VALUE};
-    private static final int[] NO_CHOICE = {-1, 2, 3, Integer.MIN_VALUE, Integer.MAX_VALUE};
-    private static final int[] NO_WAY = {
-        0, -1, -128, 127, 131, 128 + 4 * 20, 128 + 4 * 31, 128 * 21, 128 * 20 + 4, 256 + 4 * 19,
-        128 * 2 + 3, Integer.MIN_VALUE, Integer.MIN_VALUE + 128, Integer.MAX_VALUE, 1 << 30};
-
-    /** Whole machines: two jobs with the same whole machine always collide. */
-    private static final int ALL_0 = Checks.way(0, 0, 20);
-    private static final int ALL_1 = Checks.way(1, 0, 20);
-    private static final int ALL_2 = Checks.way(2, 0, 20);
-
     public static void main(String[] args) {
         promise1();
         waysAsNumbers();
@@ -47,7 +36,7 @@ public final class PromisesTest {
             Checks.due("1: withdraw(" + j + ")", x.withdraw(j), false);
         }
         TwoWayDesk other = new TwoWayDesk();
-        other.offer(ALL_0, ALL_1);
+        other.offer(Edges.ALL_0, Edges.ALL_1);
         Checks.due("1: jobs() beside another object", x.jobs(), 0);
     }
 
@@ -62,7 +51,7 @@ public final class PromisesTest {
                 }
             }
         }
-        for (int a : NO_WAY) {
+        for (int a : Edges.NO_WAY) {
             TwoWayDesk x = new TwoWayDesk();
             Checks.due("Terms: offer(" + a + ", 128)", x.offer(a, 128), TwoWayDesk.BAD);
             Checks.due("Terms: offer(128, " + a + ")", x.offer(128, a), TwoWayDesk.BAD);
@@ -94,81 +83,72 @@ public final class PromisesTest {
         Checks.due("Terms: after " + b + " offer of " + a, y.offer(a, a), collide ? TwoWayDesk.REFUSED : 1);
     }
 
-    /** Eight jobs that do not hinder each other: job j at j on machine 0 or 1. */
-    private static TwoWayDesk eight() {
-        TwoWayDesk x = new TwoWayDesk();
-        for (int j = 0; j < 8; j++) {
-            Checks.due("2: offer " + j, x.offer(Checks.way(0, j, 1), Checks.way(1, j, 1)), j);
-        }
-        return x;
-    }
-
     private static void promise2() {
-        TwoWayDesk x = eight();
+        TwoWayDesk x = Edges.eight();
         Checks.due("2: jobs() of eight", x.jobs(), 255);
         Checks.due("2: BAD before FULL, a", x.offer(0, 128), TwoWayDesk.BAD);
         Checks.due("2: BAD before FULL, b", x.offer(128, 0), TwoWayDesk.BAD);
-        Checks.due("2: FULL", x.offer(ALL_2, ALL_2), TwoWayDesk.FULL);
+        Checks.due("2: FULL", x.offer(Edges.ALL_2, Edges.ALL_2), TwoWayDesk.FULL);
         x.withdraw(6);
         x.withdraw(2);
-        Checks.due("2: least free number", x.offer(ALL_2, ALL_2), 2);
-        Checks.due("2: FULL is not yet", x.offer(ALL_2, ALL_2), TwoWayDesk.REFUSED);
-        Checks.due("2: a place is left", x.offer(Checks.way(0, 19, 1), ALL_2), 6);
-        Checks.due("2: FULL before REFUSED", x.offer(ALL_2, ALL_2), TwoWayDesk.FULL);
+        Checks.due("2: least free number", x.offer(Edges.ALL_2, Edges.ALL_2), 2);
+        Checks.due("2: FULL is not yet", x.offer(Edges.ALL_2, Edges.ALL_2), TwoWayDesk.REFUSED);
+        Checks.due("2: a place is left", x.offer(Checks.way(0, 19, 1), Edges.ALL_2), 6);
+        Checks.due("2: FULL before REFUSED", x.offer(Edges.ALL_2, Edges.ALL_2), TwoWayDesk.FULL);
 
         TwoWayDesk y = new TwoWayDesk();
-        y.offer(ALL_0, ALL_1);
-        y.offer(ALL_0, ALL_1);
-        Checks.due("2: BAD before REFUSED", y.offer(ALL_0, 0), TwoWayDesk.BAD);
-        Checks.due("2: REFUSED", y.offer(ALL_0, ALL_1), TwoWayDesk.REFUSED);
+        y.offer(Edges.ALL_0, Edges.ALL_1);
+        y.offer(Edges.ALL_0, Edges.ALL_1);
+        Checks.due("2: BAD before REFUSED", y.offer(Edges.ALL_0, 0), TwoWayDesk.BAD);
+        Checks.due("2: REFUSED", y.offer(Edges.ALL_0, Edges.ALL_1), TwoWayDesk.REFUSED);
         Checks.due("2: REFUSED changes nothing", y.jobs(), 3);
         Checks.due("2: REFUSED leaves no way", y.way(2, 0), TwoWayDesk.NONE);
-        Checks.due("2: way 0 is a", y.way(1, 0), ALL_0);
-        Checks.due("2: way 1 is b", y.way(1, 1), ALL_1);
+        Checks.due("2: way 0 is a", y.way(1, 0), Edges.ALL_0);
+        Checks.due("2: way 1 is b", y.way(1, 1), Edges.ALL_1);
         Checks.due("2: not pinned", y.unpin(1), false);
         y.pin(0, 0);
-        Checks.due("2: pins bind", y.offer(ALL_0, ALL_0), TwoWayDesk.REFUSED);
-        Checks.due("2: third machine", y.offer(ALL_0, ALL_2), 2);
+        Checks.due("2: pins bind", y.offer(Edges.ALL_0, Edges.ALL_0), TwoWayDesk.REFUSED);
+        Checks.due("2: third machine", y.offer(Edges.ALL_0, Edges.ALL_2), 2);
     }
 
     private static void promise3() {
         TwoWayDesk x = new TwoWayDesk();
-        Checks.due("3: probe of the first", x.probe(ALL_0, ALL_1), 0);
+        Checks.due("3: probe of the first", x.probe(Edges.ALL_0, Edges.ALL_1), 0);
         Checks.due("3: it changes nothing", x.jobs(), 0);
-        x.offer(ALL_0, ALL_1);
-        Checks.due("3: probe of the second", x.probe(ALL_0, ALL_0), 1);
+        x.offer(Edges.ALL_0, Edges.ALL_1);
+        Checks.due("3: probe of the second", x.probe(Edges.ALL_0, Edges.ALL_0), 1);
         Checks.due("3: the plan stays", x.planned(0), 0);
         Checks.due("3: nothing is forced", x.forced(0), TwoWayDesk.NONE);
-        x.offer(ALL_0, ALL_1);
-        Checks.due("3: REFUSED", x.probe(ALL_1, ALL_0), TwoWayDesk.REFUSED);
-        Checks.due("3: BAD", x.probe(ALL_1, -1), TwoWayDesk.BAD);
-        Checks.due("3: BAD", x.probe(-1, ALL_1), TwoWayDesk.BAD);
+        x.offer(Edges.ALL_0, Edges.ALL_1);
+        Checks.due("3: REFUSED", x.probe(Edges.ALL_1, Edges.ALL_0), TwoWayDesk.REFUSED);
+        Checks.due("3: BAD", x.probe(Edges.ALL_1, -1), TwoWayDesk.BAD);
+        Checks.due("3: BAD", x.probe(-1, Edges.ALL_1), TwoWayDesk.BAD);
         Checks.due("3: jobs()", x.jobs(), 3);
         x.withdraw(0);
-        Checks.due("3: least free number", x.probe(ALL_1, ALL_2), 0);
-        TwoWayDesk full = eight();
-        Checks.due("3: FULL", full.probe(ALL_2, ALL_2), TwoWayDesk.FULL);
-        Checks.due("3: BAD before FULL", full.probe(ALL_2, 0), TwoWayDesk.BAD);
+        Checks.due("3: least free number", x.probe(Edges.ALL_1, Edges.ALL_2), 0);
+        TwoWayDesk full = Edges.eight();
+        Checks.due("3: FULL", full.probe(Edges.ALL_2, Edges.ALL_2), TwoWayDesk.FULL);
+        Checks.due("3: BAD before FULL", full.probe(Edges.ALL_2, 0), TwoWayDesk.BAD);
         full.pin(7, 1);
-        full.probe(ALL_2, ALL_2);
+        full.probe(Edges.ALL_2, Edges.ALL_2);
         Checks.due("3: a pin stays", full.planned(7), 1);
     }
 
     private static void promise4() {
         TwoWayDesk x = new TwoWayDesk();
-        x.offer(ALL_0, ALL_1);
-        x.offer(ALL_0, ALL_1);
+        x.offer(Edges.ALL_0, Edges.ALL_1);
+        x.offer(Edges.ALL_0, Edges.ALL_1);
         x.pin(0, 1);
         Checks.due("4: withdraw(0)", x.withdraw(0), true);
         Checks.due("4: jobs()", x.jobs(), 2);
         Checks.due("4: way(0, 0)", x.way(0, 0), TwoWayDesk.NONE);
         Checks.due("4: again", x.withdraw(0), false);
-        Checks.due("4: the other is there", x.way(1, 1), ALL_1);
+        Checks.due("4: the other is there", x.way(1, 1), Edges.ALL_1);
         Checks.due("4: its place is free", x.forced(1), TwoWayDesk.NONE);
-        Checks.due("4: the number is given again", x.offer(ALL_0, ALL_1), 0);
+        Checks.due("4: the number is given again", x.offer(Edges.ALL_0, Edges.ALL_1), 0);
         Checks.due("4: the pin went with the job", x.unpin(0), false);
         Checks.due("4: the pin went with the job", x.planned(0), 0);
-        for (int j : NO_JOB) {
+        for (int j : Edges.NO_JOB) {
             Checks.due("4: withdraw(" + j + ")", x.withdraw(j), false);
         }
         Checks.due("4: jobs() after wrong inputs", x.jobs(), 3);
@@ -176,37 +156,37 @@ public final class PromisesTest {
 
     private static void promise5() {
         TwoWayDesk x = new TwoWayDesk();
-        x.offer(ALL_0, ALL_1);
-        x.offer(ALL_0, ALL_0);
-        Checks.due("5: REFUSED", x.change(0, 1, ALL_0), TwoWayDesk.REFUSED);
-        Checks.due("5: REFUSED changes nothing", x.way(0, 1), ALL_1);
-        Checks.due("5: change(0, 1, ..)", x.change(0, 1, ALL_2), 1);
-        Checks.due("5: the new way", x.way(0, 1), ALL_2);
-        Checks.due("5: the other way stays", x.way(0, 0), ALL_0);
-        Checks.due("5: change(0, 0, ..)", x.change(0, 0, ALL_1), 0);
-        Checks.due("5: the new way", x.way(0, 0), ALL_1);
+        x.offer(Edges.ALL_0, Edges.ALL_1);
+        x.offer(Edges.ALL_0, Edges.ALL_0);
+        Checks.due("5: REFUSED", x.change(0, 1, Edges.ALL_0), TwoWayDesk.REFUSED);
+        Checks.due("5: REFUSED changes nothing", x.way(0, 1), Edges.ALL_1);
+        Checks.due("5: change(0, 1, ..)", x.change(0, 1, Edges.ALL_2), 1);
+        Checks.due("5: the new way", x.way(0, 1), Edges.ALL_2);
+        Checks.due("5: the other way stays", x.way(0, 0), Edges.ALL_0);
+        Checks.due("5: change(0, 0, ..)", x.change(0, 0, Edges.ALL_1), 0);
+        Checks.due("5: the new way", x.way(0, 0), Edges.ALL_1);
         Checks.due("5: the plan follows", x.planned(0), 0);
-        Checks.due("5: the same way again", x.change(0, 0, ALL_1), 0);
-        for (int j : NO_JOB) {
-            Checks.due("5: change(" + j + ", 0, ..)", x.change(j, 0, ALL_1), TwoWayDesk.BAD);
+        Checks.due("5: the same way again", x.change(0, 0, Edges.ALL_1), 0);
+        for (int j : Edges.NO_JOB) {
+            Checks.due("5: change(" + j + ", 0, ..)", x.change(j, 0, Edges.ALL_1), TwoWayDesk.BAD);
         }
-        Checks.due("5: change(2, 0, ..)", x.change(2, 0, ALL_1), TwoWayDesk.BAD);
-        for (int k : NO_CHOICE) {
-            Checks.due("5: change(0, " + k + ", ..)", x.change(0, k, ALL_1), TwoWayDesk.BAD);
+        Checks.due("5: change(2, 0, ..)", x.change(2, 0, Edges.ALL_1), TwoWayDesk.BAD);
+        for (int k : Edges.NO_CHOICE) {
+            Checks.due("5: change(0, " + k + ", ..)", x.change(0, k, Edges.ALL_1), TwoWayDesk.BAD);
         }
-        for (int a : NO_WAY) {
+        for (int a : Edges.NO_WAY) {
             Checks.due("5: change(0, 0, " + a + ")", x.change(0, 0, a), TwoWayDesk.BAD);
         }
-        Checks.due("5: BAD changes nothing", x.way(0, 0), ALL_1);
-        Checks.due("5: BAD changes nothing", x.way(0, 1), ALL_2);
-        Checks.due("5: BAD changes nothing", x.way(1, 0), ALL_0);
+        Checks.due("5: BAD changes nothing", x.way(0, 0), Edges.ALL_1);
+        Checks.due("5: BAD changes nothing", x.way(0, 1), Edges.ALL_2);
+        Checks.due("5: BAD changes nothing", x.way(1, 0), Edges.ALL_0);
         Checks.due("5: jobs()", x.jobs(), 3);
     }
 
     private static void promise6() {
         TwoWayDesk x = new TwoWayDesk();
-        x.offer(ALL_0, ALL_1);
-        x.offer(ALL_0, ALL_1);
+        x.offer(Edges.ALL_0, Edges.ALL_1);
+        x.offer(Edges.ALL_0, Edges.ALL_1);
         Checks.due("6: pin(0, 1)", x.pin(0, 1), 1);
         Checks.due("6: plans must choose it", x.planned(0), 1);
         Checks.due("6: plans must choose it", x.forced(0), 1);
@@ -222,11 +202,11 @@ public final class PromisesTest {
         Checks.due("6: the old pin binds", x.forced(1), 1);
         Checks.due("6: the old pin is there", x.unpin(1), true);
         Checks.due("6: one unpin takes it away", x.unpin(1), false);
-        for (int j : NO_JOB) {
+        for (int j : Edges.NO_JOB) {
             Checks.due("6: pin(" + j + ", 0)", x.pin(j, 0), TwoWayDesk.BAD);
         }
         Checks.due("6: pin(2, 0)", x.pin(2, 0), TwoWayDesk.BAD);
-        for (int k : NO_CHOICE) {
+        for (int k : Edges.NO_CHOICE) {
             Checks.due("6: pin(0, " + k + ")", x.pin(0, k), TwoWayDesk.BAD);
         }
         Checks.due("6: BAD pins nothing", x.unpin(0), false);
@@ -234,8 +214,8 @@ public final class PromisesTest {
 
     private static void promise7() {
         TwoWayDesk x = new TwoWayDesk();
-        x.offer(ALL_0, ALL_1);
-        x.offer(ALL_0, ALL_2);
+        x.offer(Edges.ALL_0, Edges.ALL_1);
+        x.offer(Edges.ALL_0, Edges.ALL_2);
         Checks.due("7: not pinned", x.unpin(0), false);
         x.pin(0, 0);
         x.pin(1, 1);
@@ -246,7 +226,7 @@ public final class PromisesTest {
         Checks.due("7: again", x.unpin(1), false);
         Checks.due("7: the job stays", x.jobs(), 3);
         x.pin(1, 1);
-        for (int j : NO_JOB) {
+        for (int j : Edges.NO_JOB) {
             Checks.due("7: unpin(" + j + ")", x.unpin(j), false);
         }
         Checks.due("7: wrong inputs change nothing", x.forced(1), 1);
@@ -255,45 +235,35 @@ public final class PromisesTest {
     }
 
     private static void promise8() {
-        TwoWayDesk x = eight();
+        TwoWayDesk x = Edges.eight();
         int left = 255;
         for (int j : new int[] {3, 0, 7, 5}) {
             x.withdraw(j);
             left -= 1 << j;
             Checks.due("8: jobs() without " + j, x.jobs(), left);
         }
-        x.offer(ALL_2, ALL_2);
+        x.offer(Edges.ALL_2, Edges.ALL_2);
         Checks.due("8: jobs() with 0 again", x.jobs(), left + 1);
     }
 
     private static void promise9() {
-        TwoWayDesk x = eight();
+        TwoWayDesk x = Edges.eight();
         for (int j = 0; j < 8; j++) {
             Checks.due("9: way(" + j + ", 0)", x.way(j, 0), Checks.way(0, j, 1));
             Checks.due("9: way(" + j + ", 1)", x.way(j, 1), Checks.way(1, j, 1));
         }
-        for (int j : NO_JOB) {
+        for (int j : Edges.NO_JOB) {
             Checks.due("9: way(" + j + ", 0)", x.way(j, 0), TwoWayDesk.NONE);
         }
-        for (int k : NO_CHOICE) {
+        for (int k : Edges.NO_CHOICE) {
             Checks.due("9: way(1, " + k + ")", x.way(1, k), TwoWayDesk.NONE);
         }
         x.withdraw(4);
         Checks.due("9: way(4, 1) when withdrawn", x.way(4, 1), TwoWayDesk.NONE);
     }
 
-    /** Jobs 0 and 1 share two machines, job 2 is driven to its way 1, job 3 is free. */
-    private static TwoWayDesk mixed() {
-        TwoWayDesk x = new TwoWayDesk();
-        x.offer(Checks.way(0, 0, 10), Checks.way(1, 0, 10));
-        x.offer(Checks.way(0, 0, 10), Checks.way(1, 0, 10));
-        x.offer(Checks.way(0, 4, 1), Checks.way(2, 4, 1));
-        x.offer(Checks.way(2, 10, 5), Checks.way(2, 12, 8));
-        return x;
-    }
-
     private static void promise10() {
-        TwoWayDesk x = mixed();
+        TwoWayDesk x = Edges.mixed();
         Checks.due("10: forced(0)", x.forced(0), TwoWayDesk.NONE);
         Checks.due("10: forced(1)", x.forced(1), TwoWayDesk.NONE);
         Checks.due("10: forced(2)", x.forced(2), 1);
@@ -301,17 +271,17 @@ public final class PromisesTest {
         x.pin(1, 1);
         Checks.due("10: forced by a pin of another", x.forced(0), 0);
         Checks.due("10: forced by its pin", x.forced(1), 1);
-        for (int j : NO_JOB) {
+        for (int j : Edges.NO_JOB) {
             Checks.due("10: forced(" + j + ")", x.forced(j), TwoWayDesk.NONE);
         }
         Checks.due("10: forced(4)", x.forced(4), TwoWayDesk.NONE);
         TwoWayDesk y = new TwoWayDesk();
-        y.offer(ALL_0, ALL_0);
+        y.offer(Edges.ALL_0, Edges.ALL_0);
         Checks.due("10: two equal ways", y.forced(0), TwoWayDesk.NONE);
     }
 
     private static void promise11() {
-        TwoWayDesk x = mixed();
+        TwoWayDesk x = Edges.mixed();
         Checks.due("11: implies(0, 0, 1, 1)", x.implies(0, 0, 1, 1), true);
         Checks.due("11: implies(0, 0, 1, 0)", x.implies(0, 0, 1, 0), false);
         Checks.due("11: implies(1, 1, 0, 0)", x.implies(1, 1, 0, 0), true);
@@ -323,14 +293,14 @@ public final class PromisesTest {
         Checks.due("11: no plan with it, itself", x.implies(2, 0, 2, 1), true);
         Checks.due("11: itself", x.implies(3, 1, 3, 1), true);
         Checks.due("11: its other way", x.implies(3, 1, 3, 0), false);
-        for (int j : NO_JOB) {
+        for (int j : Edges.NO_JOB) {
             Checks.due("11: implies(" + j + ", 0, 0, 0)", x.implies(j, 0, 0, 0), false);
             Checks.due("11: implies(2, 0, " + j + ", 0)", x.implies(2, 0, j, 0), false);
         }
         Checks.due("11: no job 4", x.implies(4, 0, 2, 1), false);
         Checks.due("11: no job 4", x.implies(4, 1, 2, 1), false);
         Checks.due("11: no job 4, though no plan chooses", x.implies(2, 0, 4, 0), false);
-        for (int k : NO_CHOICE) {
+        for (int k : Edges.NO_CHOICE) {
             Checks.due("11: implies(0, " + k + ", 2, 1)", x.implies(0, k, 2, 1), false);
             Checks.due("11: implies(2, 0, 0, " + k + ")", x.implies(2, 0, 0, k), false);
         }
@@ -339,18 +309,18 @@ public final class PromisesTest {
     }
 
     private static void promise12() {
-        TwoWayDesk x = mixed();
+        TwoWayDesk x = Edges.mixed();
         int[] first = {0, 1, 1, 0};
         for (int j = 0; j < 4; j++) {
             Checks.due("12: planned(" + j + ")", x.planned(j), first[j]);
         }
         Checks.due("12: planned(4)", x.planned(4), TwoWayDesk.NONE);
-        for (int j : NO_JOB) {
+        for (int j : Edges.NO_JOB) {
             Checks.due("12: planned(" + j + ")", x.planned(j), TwoWayDesk.NONE);
         }
         // Way 0 of job 0 drives three others to their ways 1, and still goes first.
         TwoWayDesk y = new TwoWayDesk();
-        y.offer(ALL_0, ALL_1);
+        y.offer(Edges.ALL_0, Edges.ALL_1);
         for (int j = 1; j < 4; j++) {
             y.offer(Checks.way(0, j, 1), Checks.way(2, j, 1));
         }
@@ -360,14 +330,14 @@ public final class PromisesTest {
         y.withdraw(0);
         Checks.due("12: planned(0) when withdrawn", y.planned(0), TwoWayDesk.NONE);
         Checks.due("12: planned(3) then", y.planned(3), 0);
-        Checks.due("12: a late job under number 0", y.offer(ALL_0, ALL_1), 0);
+        Checks.due("12: a late job under number 0", y.offer(Edges.ALL_0, Edges.ALL_1), 0);
         Checks.due("12: goes first again", y.planned(0), 0);
         Checks.due("12: and drives the others", y.planned(3), 1);
         // The ways are compared as 0 and 1, not by the numbers they are written as.
         TwoWayDesk z = new TwoWayDesk();
-        z.offer(ALL_2, Checks.way(0, 0, 1));
+        z.offer(Edges.ALL_2, Checks.way(0, 0, 1));
         Checks.due("12: way 0 with the greater number", z.planned(0), 0);
-        TwoWayDesk last = eight();
+        TwoWayDesk last = Edges.eight();
         for (int j = 0; j < 8; j++) {
             Checks.due("12: pin(" + j + ", 1)", last.pin(j, 1), 1);
             Checks.due("12: planned(" + j + ") in the last choice", last.planned(j), 1);
@@ -375,7 +345,7 @@ public final class PromisesTest {
     }
 
     private static void promise13() {
-        TwoWayDesk x = mixed();
+        TwoWayDesk x = Edges.mixed();
         for (int t = 0; t < 20; t++) {
             Checks.due("13: by one or the other, alwaysTaken(0, " + t + ")", x.alwaysTaken(0, t), t < 10);
             Checks.due("13: by one or the other, alwaysTaken(1, " + t + ")", x.alwaysTaken(1, t), t < 10);
@@ -384,9 +354,9 @@ public final class PromisesTest {
         }
         TwoWayDesk y = new TwoWayDesk();
         Checks.due("13: no jobs", y.alwaysTaken(0, 0), false);
-        y.offer(ALL_0, ALL_0);
-        y.offer(ALL_1, ALL_1);
-        y.offer(ALL_2, ALL_2);
+        y.offer(Edges.ALL_0, Edges.ALL_0);
+        y.offer(Edges.ALL_1, Edges.ALL_1);
+        y.offer(Edges.ALL_2, Edges.ALL_2);
         for (int m = 0; m < 3; m++) {
             Checks.due("13: alwaysTaken(" + m + ", 0)", y.alwaysTaken(m, 0), true);
             Checks.due("13: alwaysTaken(" + m + ", 19)", y.alwaysTaken(m, 19), true);
@@ -403,7 +373,7 @@ public final class PromisesTest {
     }
 
     private static void promise14() {
-        TwoWayDesk x = mixed();
+        TwoWayDesk x = Edges.mixed();
         Checks.due("14: taken by one or the other", x.couldKeepFree(Checks.way(0, 9, 2)), false);
         Checks.due("14: begins when they end", x.couldKeepFree(Checks.way(0, 10, 10)), true);
         Checks.due("14: the other machine", x.couldKeepFree(Checks.way(1, 0, 1)), false);
@@ -415,13 +385,13 @@ public final class PromisesTest {
         Checks.due("14: in no one plan", x.couldKeepFree(Checks.way(2, 11, 2)), false);
         x.pin(3, 0);
         Checks.due("14: a pin takes it", x.couldKeepFree(Checks.way(2, 5, 7)), false);
-        for (int a : NO_WAY) {
+        for (int a : Edges.NO_WAY) {
             Checks.due("14: couldKeepFree(" + a + ")", x.couldKeepFree(a), false);
             Checks.due("14: no jobs, " + a, new TwoWayDesk().couldKeepFree(a), false);
         }
-        Checks.due("14: no jobs", new TwoWayDesk().couldKeepFree(ALL_2), true);
+        Checks.due("14: no jobs", new TwoWayDesk().couldKeepFree(Edges.ALL_2), true);
         Checks.due("14: it changes nothing", x.jobs(), 15);
-        TwoWayDesk full = eight();
+        TwoWayDesk full = Edges.eight();
         full.change(7, 1, Checks.way(0, 6, 2));
         Checks.due("14: the eighth job too", full.couldKeepFree(Checks.way(0, 7, 1)), false);
         keepFreeNeedsOnePlan();
@@ -437,7 +407,7 @@ public final class PromisesTest {
     }
 
     private static void promise15() {
-        TwoWayDesk x = mixed();
+        TwoWayDesk x = Edges.mixed();
         Checks.due("15: forcedJobs()", x.forcedJobs(), 1);
         x.pin(3, 0);
         Checks.due("15: with a pin", x.forcedJobs(), 2);
@@ -445,7 +415,7 @@ public final class PromisesTest {
         Checks.due("15: a pin that forces another", x.forcedJobs(), 4);
         x.withdraw(2);
         Checks.due("15: without one of them", x.forcedJobs(), 3);
-        TwoWayDesk y = eight();
+        TwoWayDesk y = Edges.eight();
         Checks.due("15: none of eight", y.forcedJobs(), 0);
         for (int j = 0; j < 8; j++) {
             y.pin(j, j & 1);
@@ -454,14 +424,14 @@ public final class PromisesTest {
     }
 
     private static void promise16() {
-        TwoWayDesk x = mixed();
+        TwoWayDesk x = Edges.mixed();
         // Jobs 0 and 1 can only change together, and job 2 not at all.
         Checks.due("16: flips()", x.flips(), 1);
         x.withdraw(1);
         Checks.due("16: with room", x.flips(), 2);
         x.pin(3, 1);
         Checks.due("16: a pinned job does not flip", x.flips(), 1);
-        TwoWayDesk y = eight();
+        TwoWayDesk y = Edges.eight();
         Checks.due("16: all eight", y.flips(), 8);
         y.withdraw(7);
         y.withdraw(0);
@@ -470,20 +440,20 @@ public final class PromisesTest {
 
     private static void promise17() {
         TwoWayDesk x = new TwoWayDesk();
-        x.offer(ALL_0, ALL_0);
-        x.offer(ALL_1, ALL_2);
+        x.offer(Edges.ALL_0, Edges.ALL_0);
+        x.offer(Edges.ALL_1, Edges.ALL_2);
         Checks.due("17: equal ways flip", x.flips(), 2);
         x.pin(0, 1);
         Checks.due("17: a pin holds one of equal ways", x.forced(0), 1);
         Checks.due("17: and does not flip", x.flips(), 1);
         x.pin(1, 1);
-        Checks.due("17: BAD before REFUSED, no job", x.change(2, 1, ALL_0), TwoWayDesk.BAD);
-        Checks.due("17: BAD before REFUSED, no choice", x.change(1, 2, ALL_0), TwoWayDesk.BAD);
-        Checks.due("17: the pinned way is needed", x.change(1, 1, ALL_0), TwoWayDesk.REFUSED);
-        Checks.due("17: REFUSED keeps the way", x.way(1, 1), ALL_2);
-        Checks.due("17: the other way is not", x.change(1, 0, ALL_0), 0);
+        Checks.due("17: BAD before REFUSED, no job", x.change(2, 1, Edges.ALL_0), TwoWayDesk.BAD);
+        Checks.due("17: BAD before REFUSED, no choice", x.change(1, 2, Edges.ALL_0), TwoWayDesk.BAD);
+        Checks.due("17: the pinned way is needed", x.change(1, 1, Edges.ALL_0), TwoWayDesk.REFUSED);
+        Checks.due("17: REFUSED keeps the way", x.way(1, 1), Edges.ALL_2);
+        Checks.due("17: the other way is not", x.change(1, 0, Edges.ALL_0), 0);
         Checks.due("17: the pin stays", x.forced(1), 1);
-        Checks.due("17: the pinned way can change", x.change(1, 1, ALL_1), 1);
+        Checks.due("17: the pinned way can change", x.change(1, 1, Edges.ALL_1), 1);
         Checks.due("17: the pin stays", x.forced(1), 1);
         Checks.due("17: pin to the way that collides", x.pin(1, 0), TwoWayDesk.REFUSED);
         Checks.due("17: the pin is there", x.unpin(1), true);
