@@ -129,6 +129,13 @@ public final class AnswerBoundaryTest {
         TwoWayDesk y = Edges.tight();
         Checks.due("10: two plans, forced(0)", y.forced(0), NONE);
         Checks.due("10: two plans, forced(1)", y.forced(1), NONE);
+        // The plans 0 0, 0 1 and 1 0: the last of them differs from the first in job 0 alone.
+        TwoWayDesk z = new TwoWayDesk();
+        z.offer(ALL_0, ALL_2);
+        z.offer(ALL_1, ALL_2);
+        Checks.due("10: three plans, forced(0)", z.forced(0), NONE);
+        Checks.due("10: three plans, forced(1)", z.forced(1), NONE);
+        Checks.due("15: three plans", z.forcedJobs(), 0);
     }
 
     private static void forcedIsNoneForEqualWays() {
@@ -234,6 +241,9 @@ public final class AnswerBoundaryTest {
         x.pin(7, 1);
         Checks.due("11: the last choice of all", x.implies(0, 1, 7, 1), true);
         Checks.due("11: the last choice of all", x.implies(0, 1, 7, 0), false);
+        TwoWayDesk y = Edges.eightPinnedTo(0);
+        Checks.due("11: the first choice of all", y.implies(0, 0, 7, 0), true);
+        Checks.due("11: the first choice of all", y.implies(0, 0, 7, 1), false);
     }
 
     // Promise 12

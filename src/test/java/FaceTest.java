@@ -33,6 +33,9 @@ public final class FaceTest {
         Class<?> face = TwoWayDesk.class;
         Checks.due("the class is public", Modifier.isPublic(face.getModifiers()), true);
         Checks.due("the class is final", Modifier.isFinal(face.getModifiers()), true);
+        Checks.due("the class extends no other", face.getSuperclass() == Object.class, true);
+        Checks.due("interfaces", face.getInterfaces().length, 0);
+        Checks.due("classes inside", face.getDeclaredClasses().length, 0);
         Checks.due("constructors", face.getDeclaredConstructors().length, 1);
         Checks.due("public constructors", face.getConstructors().length, 1);
         same("methods", visible(face.getDeclaredMethods()), METHODS);
